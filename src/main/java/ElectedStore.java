@@ -103,9 +103,7 @@ public final class ElectedStore {
             return SPLIT;
         }
         markStep(group);
-        if (node == leaderNode) {
-            leaderNode = NOBODY;
-        }
+        // A leader who is no member any more is not in the quorum, so the settling finds no leader then.
         settle();
         return 1;
     }
@@ -324,14 +322,13 @@ public final class ElectedStore {
     private void elect(int group) {
         if (isHolderNeeded(group)) {
             leaderNode = holder;
-            markStep(group);
             doCommand(pendingCode, pendingNumber, pendingA, pendingB);
-            markStep(group);
         } else {
             // Whoever held a command that the others went on without must not lead them.
             leaderNode = leastCurrent(group, holder);
-            markStep(group);
         }
+        // The choice and the command are steps of the same quorum, so one mark does for both.
+        markStep(group);
         holder = NOBODY;
     }
 

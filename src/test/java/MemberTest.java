@@ -159,6 +159,10 @@ public final class MemberTest {
         due.is("leader() stays", x.leader(), 1);
         due.is("member(0, true)", x.member(0, true), 1);
         due.is("leader() stays", x.leader(), 1);
+        due.is("member(4, false)", x.member(4, false), 1);
+        due.is("leader() stays, though 0 is less and current", x.leader(), 1);
+        due.is("member(4, true)", x.member(4, true), 1);
+        due.is("leader() stays, though 0 is less and current", x.leader(), 1);
         due.is("member(1, false)", x.member(1, false), 1);
         due.is("leader()", x.leader(), 0);
     }
