@@ -1,4 +1,4 @@
-/** Promises 5 and 7: member, isMember. */
+/** Promises 5 and 7: member, isMember. Pairs of refusals are in OrderTest. */
 public final class MemberTest {
     private static final Due due = new Due("MemberTest");
 
@@ -10,14 +10,19 @@ public final class MemberTest {
         theOnlyMember();
         splitByTakingOut();
         splitByTakingIn();
+        splitAtEveryNumberOfMembers();
+        everyGathering();
         theQuorumShrinks();
         theLeaderIsTakenOut();
         aNewMemberCatchesUp();
         itIsAStep();
+        noMemberIsLed();
+        isMember();
         due.end();
     }
 
     private static void answersOfEveryNode() {
+        due.sentence("Else that is done (a step; if the leader is no member any more, there is no leader then), there is a settling, and the answer is 1.");
         for (int node = 0; node < 5; node++) {
             ElectedStore x = new ElectedStore();
             due.is("member(node, false)", x.member(node, false), 1);
@@ -31,24 +36,20 @@ public final class MemberTest {
     }
 
     private static void wrongNodes() {
-        ElectedStore x = new ElectedStore();
-        String before = Due.seen(x);
-        due.is("member(5, true)", x.member(5, true), ElectedStore.BAD);
-        due.is("member(5, false)", x.member(5, false), ElectedStore.BAD);
-        due.is("isMember(5)", x.isMember(5), ElectedStore.BAD);
-        for (int node : Due.farOff()) {
-            due.is("member of no node", x.member(node, true), ElectedStore.BAD);
-            due.is("member of no node", x.member(node, false), ElectedStore.BAD);
-            due.is("isMember of no node", x.isMember(node), ElectedStore.BAD);
+        due.sentence("node is not good: BAD");
+        for (int node : Due.outside(5)) {
+            ElectedStore x = new ElectedStore();
+            x.member(3, false);
+            String before = Due.seen(x);
+            due.is("member(" + node + ", true)", x.member(node, true), ElectedStore.BAD);
+            due.is("member(" + node + ", false)", x.member(node, false), ElectedStore.BAD);
+            due.is("isMember(" + node + ")", x.isMember(node), ElectedStore.BAD);
+            due.alike("questions after them", Due.seen(x), before);
         }
-        due.holds("refused calls change nothing", Due.seen(x).equals(before));
-        x.stop(0);
-        x.stop(1);
-        x.stop(2);
-        due.is("BAD comes before NO_QUORUM", x.member(-1, true), ElectedStore.BAD);
     }
 
     private static void withoutAQuorum() {
+        due.sentence("there is no quorum: NO_QUORUM");
         ElectedStore x = new ElectedStore();
         x.stop(0);
         x.stop(1);
@@ -60,6 +61,7 @@ public final class MemberTest {
     }
 
     private static void alreadySo() {
+        due.sentence("it is so already: 0 is the answer, and nothing happens");
         ElectedStore x = new ElectedStore();
         x.member(4, false);
         String before = Due.seen(x);
@@ -87,6 +89,7 @@ public final class MemberTest {
     }
 
     private static void theOnlyMember() {
+        due.sentence("it is the only member: LAST");
         for (int node = 0; node < 5; node++) {
             ElectedStore x = onlyMember(node);
             due.is("leader()", x.leader(), node);
@@ -103,6 +106,7 @@ public final class MemberTest {
     }
 
     private static void splitByTakingOut() {
+        due.sentence("with the members that there would be, the up ones in the group of the quorum would not be more than half of them: SPLIT");
         ElectedStore x = new ElectedStore();
         x.stop(3);
         x.move(4, 1);
@@ -120,6 +124,7 @@ public final class MemberTest {
     }
 
     private static void splitByTakingIn() {
+        due.sentence("with the members that there would be, the up ones in the group of the quorum would not be more than half of them: SPLIT");
         ElectedStore x = onlyMember(2);
         x.stop(0);
         x.move(1, 1);
@@ -135,7 +140,113 @@ public final class MemberTest {
         due.is("three of five", x.member(1, true), 1);
     }
 
+    /** The members are the nodes below count; those from 'up' on are down, or in another group. */
+    private static ElectedStore gathered(int count, int up, boolean down) {
+        ElectedStore x = new ElectedStore();
+        for (int node = count; node < 5; node++) {
+            x.member(node, false);
+        }
+        for (int node = up; node < count; node++) {
+            if (down) {
+                x.stop(node);
+            } else {
+                x.move(node, 1 + node % 2);
+            }
+        }
+        return x;
+    }
+
+    private static void splitAtEveryNumberOfMembers() {
+        due.sentence("with the members that there would be, the up ones in the group of the quorum would not be more than half of them: SPLIT");
+        for (boolean down : new boolean[] {true, false}) {
+            due.is("2 of 2 up, one of them out: 1 of 1", gathered(2, 2, down).member(0, false), 1);
+            due.is("2 of 3 up, one of them out: 1 of 2, half", gathered(3, 2, down).member(0, false), ElectedStore.SPLIT);
+            due.is("2 of 3 up, the other out: 2 of 2", gathered(3, 2, down).member(2, false), 1);
+            due.is("3 of 3 up, one of them out: 2 of 2", gathered(3, 3, down).member(0, false), 1);
+            due.is("3 of 4 up, one of them out: 2 of 3", gathered(4, 3, down).member(0, false), 1);
+            due.is("3 of 4 up, the other out: 3 of 3", gathered(4, 3, down).member(3, false), 1);
+            due.is("3 of 5 up, one of them out: 2 of 4, half", gathered(5, 3, down).member(0, false), ElectedStore.SPLIT);
+            due.is("3 of 5 up, another out: 3 of 4", gathered(5, 3, down).member(4, false), 1);
+            due.is("4 of 5 up, one of them out: 3 of 4", gathered(5, 4, down).member(0, false), 1);
+            for (int count = 1; count < 5; count++) {
+                for (int up = count / 2 + 1; up <= count; up++) {
+                    ElectedStore x = gathered(count, up, down);
+                    due.is("one that is there in: " + (up + 1) + " of " + (count + 1), x.member(4, true), 1);
+                    x = gathered(count, up, down);
+                    if (down) {
+                        x.stop(4);
+                    } else {
+                        x.move(4, 2);
+                    }
+                    // One of two, and two of four, are exactly half.
+                    int want = 2 * up > count + 1 ? 1 : ElectedStore.SPLIT;
+                    due.is("one that is not there in: " + up + " of " + (count + 1), x.member(4, true), want);
+                }
+            }
+        }
+        // 'In the group of the quorum': whoever is up elsewhere is no help, be they as many as they may.
+        ElectedStore x = onlyMember(0);
+        x.move(1, 1);
+        x.move(2, 1);
+        due.is("one of two in group 0", x.member(1, true), ElectedStore.SPLIT);
+        due.is("one of two in group 0", x.member(2, true), ElectedStore.SPLIT);
+    }
+
+    /** Every set of members, every set of nodes that are up, two groups; each node taken in and out. */
+    private static void everyGathering() {
+        due.sentence("with the members that there would be, the up ones in the group of the quorum would not be more than half of them: SPLIT");
+        for (int members = 1; members < 32; members++) {
+            for (int ups = 0; ups < 32; ups++) {
+                for (int place = 0; place < 32; place++) {
+                    for (int call = 0; call < 10; call++) {
+                        gathering(members, ups, place, call / 2, call % 2 == 1);
+                    }
+                }
+            }
+        }
+    }
+
+    private static void gathering(int members, int ups, int place, int node, boolean flag) {
+        ElectedStore x = new ElectedStore();
+        for (int each = 0; each < 5; each++) {
+            if ((members >> each & 1) == 0) {
+                x.member(each, false);
+            }
+        }
+        for (int each = 0; each < 5; each++) {
+            if ((ups >> each & 1) == 0) {
+                x.stop(each);
+            }
+            x.move(each, 2 * (place >> each & 1));
+        }
+        int would = flag ? members | 1 << node : members & ~(1 << node);
+        int want = answerDue(members, ups, place, would);
+        String where = "members " + members + ", up " + ups + ", place " + place;
+        due.is(where + ": member(" + node + ", " + flag + ")", x.member(node, flag), want);
+        int after = want == 1 ? would : members;
+        for (int each = 0; each < 5; each++) {
+            due.is(where + ": isMember(" + each + ") after it", x.isMember(each), after >> each & 1);
+        }
+    }
+
+    private static int answerDue(int members, int ups, int place, int would) {
+        boolean inPlace = Integer.bitCount(members & ups & place) > Integer.bitCount(members) / 2.0;
+        boolean elsewhere = Integer.bitCount(members & ups & ~place) > Integer.bitCount(members) / 2.0;
+        if (!inPlace && !elsewhere) {
+            return ElectedStore.NO_QUORUM;
+        }
+        int there = inPlace ? place : ~place;
+        if (would == members) {
+            return 0;
+        }
+        if (would == 0) {
+            return ElectedStore.LAST;
+        }
+        return Integer.bitCount(would & ups & there) > Integer.bitCount(would) / 2.0 ? 1 : ElectedStore.SPLIT;
+    }
+
     private static void theQuorumShrinks() {
+        due.sentence("THE QUORUM is there if the up members in some group are more than half of all members");
         ElectedStore x = new ElectedStore();
         x.member(4, false);
         x.stop(3);
@@ -152,6 +263,7 @@ public final class MemberTest {
     }
 
     private static void theLeaderIsTakenOut() {
+        due.sentence("if the leader is no member any more, there is no leader then");
         ElectedStore x = new ElectedStore();
         due.is("member(0, false)", x.member(0, false), 1);
         due.is("leader()", x.leader(), 1);
@@ -168,6 +280,7 @@ public final class MemberTest {
     }
 
     private static void aNewMemberCatchesUp() {
+        due.sentence("there is a settling, and the answer is 1");
         ElectedStore x = new ElectedStore();
         x.member(3, false);
         x.submit(Due.code(0, 0, 1), 1, 5, 0);
@@ -187,6 +300,7 @@ public final class MemberTest {
     }
 
     private static void itIsAStep() {
+        due.sentence("Else that is done (a step;");
         // Whether 1 is down during the step decides whether it may lead when it comes back.
         ElectedStore x = new ElectedStore();
         x.member(4, false);
@@ -220,5 +334,37 @@ public final class MemberTest {
         x.stop(0);
         x.start(1);
         due.is("leader() of 1, 3, 4: 1 was down when 4 was taken in", x.leader(), 3);
+    }
+
+    private static void noMemberIsLed() {
+        due.sentence("if the leader is no member any more, there is no leader then");
+        for (int leader = 0; leader < 4; leader++) {
+            ElectedStore x = new ElectedStore();
+            for (int node = 0; node <= leader; node++) {
+                due.is("leader()", x.leader(), node);
+                due.is("member(" + node + ", false)", x.member(node, false), 1);
+                due.is("leader() after it was taken out", x.leader(), node + 1);
+                due.is("isUp(" + node + ")", x.isUp(node), 1);
+            }
+        }
+    }
+
+    private static void isMember() {
+        due.sentence("1 if a node is a member, else 0.");
+        for (var state : States.all().entrySet()) {
+            for (int node = 0; node < 5; node++) {
+                ElectedStore x = States.at(state.getValue());
+                int before = x.isMember(node);
+                x.stop(node);
+                x.move(node, 2);
+                due.is("isMember(" + node + ") after stop and move in state '" + state.getKey() + "'", x.isMember(node), before);
+                x.start(node);
+                x.move(node, 0);
+                due.is("isMember(" + node + ") after start", x.isMember(node), before);
+            }
+        }
+        ElectedStore x = new ElectedStore();
+        x.submitAndStop(0, 1, 1, 1);
+        due.is("isMember(0) after submitAndStop", x.isMember(0), 1);
     }
 }

@@ -31,6 +31,8 @@ public final class ModelTest {
         Random random = new Random(seed);
         ElectedStore x = new ElectedStore();
         Model model = new Model();
+        // Some runs have their numbers where there are no greater ones.
+        model.numbersFrom = seed % 4 == 3 ? Due.MAX - 20 : 0;
         for (int call = 0; call < CALLS; call++) {
             if (random.nextInt(3) > 0) {
                 act(random, x, model, "run " + seed + ", call " + call + ": ");
@@ -41,7 +43,8 @@ public final class ModelTest {
     }
 
     private static int near(Random random, int bound) {
-        return random.nextInt(60) == 0 ? (random.nextBoolean() ? -1 : bound) : random.nextInt(bound);
+        int[] outside = Due.outside(bound);
+        return random.nextInt(60) == 0 ? outside[random.nextInt(outside.length)] : random.nextInt(bound);
     }
 
     private static void act(Random random, ElectedStore x, Model model, String at) {
@@ -73,15 +76,24 @@ public final class ModelTest {
 
     private static void command(Random random, ElectedStore x, Model model, String at) {
         int code = near(random, 72);
-        int number = random.nextInt(30) == 0 ? -random.nextInt(3) : Math.max(1, model.calls / 4 + random.nextInt(9) - 4);
-        int a = random.nextInt(9) == 0 ? random.nextInt() : random.nextInt(5) - 2;
-        int b = random.nextInt(9) == 0 ? random.nextInt() : random.nextInt(5) - 2;
+        long near = model.numbersFrom + (long) model.calls / 4 + random.nextInt(9) - 4;
+        int number = random.nextInt(30) == 0 ? -random.nextInt(3) : (int) Math.min(Due.MAX, Math.max(1, near));
+        int a = value(random);
+        int b = value(random);
         boolean andStop = random.nextInt(3) == 0;
         int got = andStop ? x.submitAndStop(code, number, a, b) : x.submit(code, number, a, b);
         String name = andStop ? "submitAndStop" : "submit";
         due.is(at + name + "(" + code + ", " + number + ", " + a + ", " + b + ")", got,
                 model.submit(andStop, code, number, a, b));
         reached.merge(name + " " + got, 1, Integer::sum);
+    }
+
+    private static int value(Random random) {
+        switch (random.nextInt(12)) {
+            case 0: return random.nextInt();
+            case 1: return random.nextBoolean() ? Due.MIN : Due.MAX;
+            default: return random.nextInt(5) - 2;
+        }
     }
 
     private static void ask(Random random, ElectedStore x, Model model, String at) {
@@ -121,6 +133,7 @@ public final class ModelTest {
         int[] pending = null;
         Integer holder = null;
         int calls = 0;
+        int numbersFrom = 0;
 
         static boolean good(int node) {
             return node >= 0 && node <= 4;

@@ -4,7 +4,10 @@ public final class MoveTest {
 
     public static void main(String[] args) {
         answers();
-        wrongInputs();
+        everyWayBetweenGroups();
+        wrongGroups();
+        wrongNodes();
+        inAnyState();
         leaderMovesAway();
         quorumInEveryGroup();
         quorumGoesOverWithTheLeader();
@@ -14,6 +17,7 @@ public final class MoveTest {
     }
 
     private static void answers() {
+        due.sentence("Else answers the group in which it was.");
         for (int node = 0; node < 5; node++) {
             ElectedStore x = new ElectedStore();
             due.is("move to the group it is in", x.move(node, 0), 0);
@@ -25,23 +29,67 @@ public final class MoveTest {
         }
     }
 
-    private static void wrongInputs() {
-        ElectedStore x = new ElectedStore();
-        x.move(1, 2);
-        String before = Due.seen(x);
-        due.is("move(5, 0)", x.move(5, 0), ElectedStore.BAD);
-        due.is("move(0, 3)", x.move(0, 3), ElectedStore.BAD);
-        due.is("move(5, 3)", x.move(5, 3), ElectedStore.BAD);
-        for (int far : Due.farOff()) {
-            due.is("move of no node", x.move(far, 0), ElectedStore.BAD);
-            due.is("move to no group", x.move(0, far), ElectedStore.BAD);
+    private static void everyWayBetweenGroups() {
+        due.sentence("Else answers the group in which it was.");
+        for (int place = 0; place < 243; place++) {
+            ElectedStore x = new ElectedStore();
+            int[] groups = {place % 3, place / 3 % 3, place / 9 % 3, place / 27 % 3, place / 81};
+            for (int node = 0; node < 5; node++) {
+                due.is("move(" + node + ", " + groups[node] + ")", x.move(node, groups[node]), 0);
+            }
+            for (int node = 0; node < 5; node++) {
+                due.is("move(" + node + ", 1) in " + place, x.move(node, 1), groups[node]);
+            }
         }
-        due.holds("refused calls change nothing", Due.seen(x).equals(before));
-        due.is("the group of 0", x.move(0, 0), 0);
-        due.is("the group of 1", x.move(1, 2), 2);
+    }
+
+    private static void wrongGroups() {
+        due.sentence("node is not good, or group is not 0 .. 2: BAD.");
+        for (int node = 0; node < 5; node++) {
+            for (int group : Due.outside(3)) {
+                ElectedStore x = new ElectedStore();
+                x.move(node, 2);
+                String before = Due.seen(x);
+                due.is("move(" + node + ", " + group + ")", x.move(node, group), ElectedStore.BAD);
+                due.alike("questions after it", Due.seen(x), before);
+                due.is("and its group then", x.move(node, 0), 2);
+            }
+        }
+    }
+
+    private static void wrongNodes() {
+        due.sentence("node is not good, or group is not 0 .. 2: BAD.");
+        for (int node : Due.outside(5)) {
+            ElectedStore x = new ElectedStore();
+            x.move(1, 2);
+            String before = Due.seen(x);
+            due.is("move(" + node + ", 1)", x.move(node, 1), ElectedStore.BAD);
+            due.is("move(" + node + ", 3)", x.move(node, 3), ElectedStore.BAD);
+            due.is("move(" + node + ", -1)", x.move(node, -1), ElectedStore.BAD);
+            due.alike("questions after it", Due.seen(x), before);
+            for (int good = 0; good < 5; good++) {
+                due.is("the group of " + good, x.move(good, 0), good == 1 ? 2 : 0);
+            }
+        }
+    }
+
+    private static void inAnyState() {
+        // No state refuses it: a node may be down, no member, or without a quorum.
+        due.sentence("A node goes to a group; then there is a settling.");
+        for (var state : States.all().entrySet()) {
+            for (int node = 0; node < 5; node++) {
+                for (int group = 0; group < 3; group++) {
+                    ElectedStore x = States.at(state.getValue());
+                    int was = x.move(node, group);
+                    due.holds("it was in a group", was >= 0 && was <= 2);
+                    due.is("move(" + node + ", " + group + ") in state '" + state.getKey() + "'", x.move(node, 0), group);
+                }
+            }
+        }
     }
 
     private static void leaderMovesAway() {
+        due.sentence("A node goes to a group; then there is a settling.");
         ElectedStore x = new ElectedStore();
         x.move(0, 1);
         due.is("leader() after 0 went to group 1", x.leader(), 1);
@@ -50,6 +98,7 @@ public final class MoveTest {
     }
 
     private static void quorumInEveryGroup() {
+        due.sentence("A node goes to a group; then there is a settling.");
         for (int group = 1; group <= 2; group++) {
             ElectedStore x = new ElectedStore();
             x.move(0, group);
@@ -64,6 +113,7 @@ public final class MoveTest {
     }
 
     private static void quorumGoesOverWithTheLeader() {
+        due.sentence("A node goes to a group; then there is a settling.");
         ElectedStore x = new ElectedStore();
         x.member(3, false);
         x.member(4, false);
@@ -78,6 +128,7 @@ public final class MoveTest {
     }
 
     private static void downNodesMove() {
+        due.sentence("A node goes to a group; then there is a settling.");
         ElectedStore x = new ElectedStore();
         x.stop(0);
         due.is("move of a node that is down", x.move(0, 2), 0);
@@ -89,6 +140,7 @@ public final class MoveTest {
     }
 
     private static void movedNodesFallBehindAndCatchUp() {
+        due.sentence("A node goes to a group; then there is a settling.");
         ElectedStore x = new ElectedStore();
         x.move(4, 1);
         x.move(3, 2);

@@ -1,10 +1,20 @@
-/** Promises 10 and 11: submitAndStop, pending, and what a settling does with a pending command. */
+/**
+ * Promises 10 and 11: submitAndStop, pending. What a settling does with a pending command is in SettlingTest too, pairs of
+ * refusals are in OrderTest.
+ */
 public final class PendingTest {
     private static final int SET = Due.code(0, 2, 3);
     private static final Due due = new Due("PendingTest");
 
     public static void main(String[] args) {
-        answersOfSubmit();
+        wrongCodes();
+        wrongNumbers();
+        oldAndLastNumbers();
+        noQuorum();
+        theLeaderGoesDown();
+        twoOrThreeAtEveryNumberOfMembers();
+        everyLeaderHolds();
+        pendingInEveryState();
         droppedAtOnce();
         stillPending();
         theHolderComesBackFirst();
@@ -18,32 +28,139 @@ public final class PendingTest {
         due.end();
     }
 
-    private static void answersOfSubmit() {
-        ElectedStore x = new ElectedStore();
-        x.submit(SET, 5, 1, 0);
-        String before = Due.seen(x);
-        for (int code : Due.farOff()) {
-            due.is("submitAndStop of no code", x.submitAndStop(code, 9, 1, 1), ElectedStore.BAD);
+    private static void wrongCodes() {
+        due.sentence("As submit, with the same answers below 0, and 1");
+        for (int code : Due.outside(72)) {
+            for (int number : new int[] {1, 9, Due.MAX, 0}) {
+                ElectedStore x = States.at(States::fill);
+                String before = Due.seen(x);
+                due.is("submitAndStop(" + code + ", " + number + ", ..)", x.submitAndStop(code, number, 1, 1), ElectedStore.BAD);
+                due.alike("questions after it: nobody stops", Due.seen(x), before);
+            }
         }
-        for (int number : new int[] {0, -1, Integer.MIN_VALUE}) {
-            due.is("submitAndStop of a number below 1", x.submitAndStop(SET, number, 1, 1), ElectedStore.BAD);
+    }
+
+    private static void wrongNumbers() {
+        due.sentence("As submit, with the same answers below 0, and 1");
+        for (int number : new int[] {0, -1, -2, -256, -65536, Due.MIN + 1, Due.MIN}) {
+            for (int code : new int[] {0, 1, 35, 70, 71}) {
+                ElectedStore x = new ElectedStore();
+                String before = Due.seen(x);
+                due.is("submitAndStop(" + code + ", " + number + ", ..)", x.submitAndStop(code, number, 1, 1), ElectedStore.BAD);
+                due.alike("questions after it: nobody stops", Due.seen(x), before);
+            }
         }
-        due.is("4", x.submitAndStop(SET, 4, 9, 9), ElectedStore.OLD);
-        due.is("5", x.submitAndStop(SET, 5, 9, 9), 1);
-        due.holds("nothing happens, and nobody stops", Due.seen(x).equals(before));
-        x.stop(2);
-        x.stop(3);
-        x.stop(4);
-        before = Due.seen(x);
-        due.is("BAD comes before NO_QUORUM", x.submitAndStop(-1, 4, 9, 9), ElectedStore.BAD);
-        due.is("NO_QUORUM comes before OLD", x.submitAndStop(SET, 4, 9, 9), ElectedStore.NO_QUORUM);
-        due.is("NO_QUORUM comes before 1", x.submitAndStop(SET, 5, 9, 9), ElectedStore.NO_QUORUM);
-        due.is("NO_QUORUM", x.submitAndStop(SET, 6, 9, 9), ElectedStore.NO_QUORUM);
-        due.holds("refused calls change nothing", Due.seen(x).equals(before));
-        due.is("pending()", x.pending(), 0);
+    }
+
+    private static void oldAndLastNumbers() {
+        due.sentence("As submit, with the same answers below 0, and 1");
+        for (int session = 0; session < 4; session++) {
+            ElectedStore x = States.at(States::fill);
+            String before = Due.seen(x);
+            due.is("a lesser number", x.submitAndStop(Due.code(0, session, 3), 29 + session, 9, 9), ElectedStore.OLD);
+            due.is("the least number", x.submitAndStop(Due.code(0, session, 3), 1, 9, 9), ElectedStore.OLD);
+            due.is("the last number", x.submitAndStop(Due.code(0, session, 3), 30 + session, 9, 9), 1);
+            due.alike("questions after them: nobody stops", Due.seen(x), before);
+            due.is("a greater number", x.submitAndStop(Due.code(0, session, 3), 31 + session, 9, 9), 3);
+        }
+    }
+
+    private static void noQuorum() {
+        due.sentence("As submit, with the same answers below 0, and 1");
+        for (var state : States.all().entrySet()) {
+            ElectedStore x = States.at(state.getValue());
+            if (x.canGet(0) != 0) {
+                String before = Due.seen(x);
+                due.is("submitAndStop in state '" + state.getKey() + "'", x.submitAndStop(SET, Due.MAX, 9, 9), ElectedStore.NO_QUORUM);
+                due.alike("questions after it", Due.seen(x), before);
+            }
+        }
+    }
+
+    private static void theLeaderGoesDown() {
+        due.sentence("the leader writes the command into its own log only and goes down at once");
+        for (var state : States.all().entrySet()) {
+            ElectedStore x = States.at(state.getValue());
+            ElectedStore y = States.at(state.getValue());
+            int leader = x.leader();
+            if (leader >= 0) {
+                // Whatever becomes of the command, nobody sees it by this call: all is as if the leader had just stopped.
+                int answer = x.submitAndStop(SET, Due.MAX, 9, 9);
+                due.is("stop(leader)", y.stop(leader), 1);
+                due.is("isUp(leader) in state '" + state.getKey() + "'", x.isUp(leader), 0);
+                due.is("pending()", x.pending(), answer == 2 ? 1 : 0);
+                due.alike("the rest", Due.seen(x).replace("pending 1", "pending 0"), Due.seen(y));
+                due.is("answer", answer, y.leader() < 0 ? 2 : 3);
+            }
+        }
+    }
+
+    private static void twoOrThreeAtEveryNumberOfMembers() {
+        due.sentence("Answers 2 if the command is still pending then, else 3.");
+        for (int count = 1; count <= 5; count++) {
+            for (int up = count / 2 + 1; up <= count; up++) {
+                for (boolean down : new boolean[] {true, false}) {
+                    ElectedStore x = new ElectedStore();
+                    for (int node = count; node < 5; node++) {
+                        x.member(node, false);
+                    }
+                    for (int node = up; node < count; node++) {
+                        if (down) {
+                            x.stop(node);
+                        } else {
+                            x.move(node, 2);
+                        }
+                    }
+                    // Without the leader, one less are there: of 2 and 4 members, 1 and 2 are exactly half.
+                    boolean goOn = up - 1 > count / 2.0;
+                    String where = up + " of " + count;
+                    due.is("submitAndStop by " + where, x.submitAndStop(SET, 1, 8, 0), goOn ? 3 : 2);
+                    due.is("pending() of " + where, x.pending(), goOn ? 0 : 1);
+                    due.is("leader() of " + where, x.leader(), goOn ? 1 : ElectedStore.NO_QUORUM);
+                    due.is("isUp(0)", x.isUp(0), 0);
+                    x.start(0);
+                    due.is("pending() of " + where + " after start(0)", x.pending(), 0);
+                    due.is("get(3) of " + where + " after start(0)", x.get(3), goOn ? 0 : 8);
+                    due.is("leader() of " + where + " after start(0)", x.leader(), goOn ? 1 : 0);
+                }
+            }
+        }
+    }
+
+    private static void everyLeaderHolds() {
+        due.sentence("The command is pending then, and the node that was leader is its holder.");
+        for (int leader = 0; leader < 5; leader++) {
+            ElectedStore x = new ElectedStore();
+            for (int node = 0; node < leader; node++) {
+                x.member(node, false);
+            }
+            for (int node = 0; node < leader; node++) {
+                x.member(node, true);
+            }
+            x.stop((leader + 1) % 5);
+            x.stop((leader + 2) % 5);
+            due.is("leader()", x.leader(), leader);
+            due.is("submitAndStop", x.submitAndStop(SET, 1, 8, 0), 2);
+            for (int node = 0; node < 5; node++) {
+                boolean up = node == (leader + 3) % 5 || node == (leader + 4) % 5;
+                due.is("isUp(" + node + ")", x.isUp(node), up ? 1 : 0);
+            }
+            x.start(leader);
+            due.is("leader() with the holder back", x.leader(), leader);
+            due.is("get(3)", x.get(3), 8);
+        }
+    }
+
+    private static void pendingInEveryState() {
+        due.sentence("1 if there is a pending command, else 0.");
+        for (var state : States.all().entrySet()) {
+            boolean isPending = state.getKey().startsWith("pending") && !state.getKey().contains("then");
+            due.is("pending() in state '" + state.getKey() + "'", States.at(state.getValue()).pending(), isPending ? 1 : 0);
+        }
     }
 
     private static void droppedAtOnce() {
+        due.sentence("it is dropped for ever");
         ElectedStore x = new ElectedStore();
         due.is("submitAndStop", x.submitAndStop(SET, 1, 8, 0), 3);
         due.is("pending()", x.pending(), 0);
@@ -73,6 +190,7 @@ public final class PendingTest {
     }
 
     private static void stillPending() {
+        due.sentence("(It is not done by this call.)");
         ElectedStore x = held();
         due.is("pending()", x.pending(), 1);
         due.is("leader()", x.leader(), ElectedStore.NO_QUORUM);
@@ -89,6 +207,7 @@ public final class PendingTest {
     }
 
     private static void theHolderComesBackFirst() {
+        due.sentence("the holder becomes leader (a step), the pending command is done (a step), and is pending no more");
         ElectedStore x = held();
         due.is("start(0)", x.start(0), 1);
         due.is("pending()", x.pending(), 0);
@@ -124,6 +243,7 @@ public final class PendingTest {
     }
 
     private static void theOthersGoOnWithoutIt() {
+        due.sentence("it is dropped for ever");
         ElectedStore x = held();
         x.start(4);
         due.is("pending()", x.pending(), 0);
@@ -136,6 +256,7 @@ public final class PendingTest {
     }
 
     private static void theHolderIsInAnotherGroup() {
+        due.sentence("and its holder is in the quorum");
         ElectedStore x = held();
         x.move(0, 1);
         x.start(0);
@@ -160,6 +281,7 @@ public final class PendingTest {
     }
 
     private static void aHolderWhoCannotHelpYet() {
+        due.sentence("and its holder is in the quorum");
         ElectedStore x = held();
         x.stop(1);
         x.start(0);
@@ -186,6 +308,7 @@ public final class PendingTest {
     }
 
     private static void everyKindIsDoneLater() {
+        due.sentence("the pending command is done (a step)");
         for (int kind = 0; kind <= 2; kind++) {
             ElectedStore x = new ElectedStore();
             x.submit(Due.code(0, 0, 5), 1, 10, 0);
@@ -200,6 +323,7 @@ public final class PendingTest {
     }
 
     private static void theOnlyMemberHoldsIt() {
+        due.sentence("and without it the others in the quorum are not more than half of the members");
         ElectedStore x = new ElectedStore();
         for (int node = 0; node < 4; node++) {
             x.member(node, false);
@@ -228,6 +352,7 @@ public final class PendingTest {
     }
 
     private static void againAndAgain() {
+        due.sentence("Answers 2 if the command is still pending then, else 3.");
         ElectedStore x = new ElectedStore();
         due.is("submitAndStop", x.submitAndStop(Due.code(1, 0, 0), 1, 1, 0), 3);
         due.is("leader()", x.leader(), 1);
@@ -244,6 +369,7 @@ public final class PendingTest {
     }
 
     private static void theHolderMissesTheChoice() {
+        due.sentence("becomes leader (a step)");
         // 0 held a command that was dropped when 1 was chosen; it is not current, so it may not lead at once.
         ElectedStore x = new ElectedStore();
         due.is("submitAndStop", x.submitAndStop(SET, 1, 8, 0), 3);

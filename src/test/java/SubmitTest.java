@@ -1,146 +1,167 @@
-/** Promise 9: submit. */
+/** Promise 9: submit. How a command is done is in CommandTest, pairs of refusals are in OrderTest. */
 public final class SubmitTest {
-    private static final int MIN = Integer.MIN_VALUE;
-    private static final int MAX = Integer.MAX_VALUE;
+    private static final int MIN = Due.MIN;
+    private static final int MAX = Due.MAX;
     private static final Due due = new Due("SubmitTest");
 
     public static void main(String[] args) {
-        everyCode();
-        set();
-        add();
-        exchange();
-        numbers();
-        sessionsAreApart();
-        wrongInputs();
-        orderOfTests();
+        codesAtTheEdges();
+        wrongCodes();
+        wrongNumbers();
+        noQuorum();
+        oldNumbers();
+        theLastNumber();
+        newNumbers();
+        numberOne();
+        theGreatestNumber();
+        theNumberIsTheStates();
         theQuorumAloneIsBroughtUp();
         due.end();
     }
 
-    private static void everyCode() {
-        for (int code = 0; code < 72; code++) {
-            int kind = code / 24;
-            int session = code / 6 % 4;
-            int key = code % 6;
-            ElectedStore x = new ElectedStore();
-            for (int each = 0; each < 6; each++) {
-                x.submit(Due.code(0, (session + 1) % 4, each), each + 1, 10 + each, 0);
-            }
-            due.is("submit(code, 3, 10 + key, 99)", x.submit(code, 3, 10 + key, 99), 0);
-            int want = kind == 0 ? 10 + key : kind == 1 ? 20 + 2 * key : 99;
-            for (int each = 0; each < 6; each++) {
-                due.is("get after code " + code, x.get(each), each == key ? want : 10 + each);
-            }
-            for (int each = 0; each < 4; each++) {
-                int number = each == session ? 3 : each == (session + 1) % 4 ? 6 : 0;
-                due.is("lastNumber after code " + code, x.lastNumber(2, each), number);
-                due.is("answer after code " + code, x.answer(2, each), each == session ? 10 + key : 0);
-            }
-        }
-    }
-
-    private static void set() {
+    private static void codesAtTheEdges() {
+        due.sentence("code is not 0 .. 71, or number is below 1: BAD");
         ElectedStore x = new ElectedStore();
-        int[] values = {1, 0, -1, MIN, MAX, 5};
-        int before = 0;
-        for (int i = 0; i < values.length; i++) {
-            due.is("set", x.submit(Due.code(0, 0, 2), i + 1, values[i], 1234), 0);
-            due.is("get(2)", x.get(2), values[i]);
-            due.is("answer(0, 0) is the value before", x.answer(0, 0), before);
-            before = values[i];
-        }
-    }
-
-    private static void add() {
-        ElectedStore x = new ElectedStore();
-        int[] parts = {MAX, 1, MIN, -1, MIN, MIN, 7};
-        int sum = 0;
-        for (int i = 0; i < parts.length; i++) {
-            due.is("add", x.submit(Due.code(1, 3, 5), i + 1, parts[i], 1234), 0);
-            due.is("answer(4, 3) is the value before", x.answer(4, 3), sum);
-            sum += parts[i];
-            due.is("get(5), wrapping", x.get(5), sum);
-        }
-    }
-
-    private static void exchange() {
-        ElectedStore x = new ElectedStore();
-        due.is("0 for 8", x.submit(Due.code(2, 1, 0), 1, 0, 8), 0);
+        due.is("submit(0, 1, ..)", x.submit(0, 1, 8, 0), 0);
         due.is("get(0)", x.get(0), 8);
-        due.is("7 for 9, which is not there", x.submit(Due.code(2, 1, 0), 2, 7, 9), 0);
-        due.is("get(0) stays", x.get(0), 8);
-        due.is("lastNumber(0, 1) all the same", x.lastNumber(0, 1), 2);
-        due.is("answer(0, 1) all the same", x.answer(0, 1), 8);
-        due.is("8 for MIN", x.submit(Due.code(2, 1, 0), 3, 8, MIN), 0);
-        due.is("get(0)", x.get(0), MIN);
-        due.is("MIN for MAX", x.submit(Due.code(2, 1, 0), 4, MIN, MAX), 0);
-        due.is("get(0)", x.get(0), MAX);
-        due.is("MIN for 0, which is not there", x.submit(Due.code(2, 1, 0), 5, MIN, 0), 0);
-        due.is("get(0)", x.get(0), MAX);
+        due.is("submit(71, 1, ..)", x.submit(71, 1, 0, 9), 0);
+        due.is("get(5)", x.get(5), 9);
+        due.is("lastNumber(0, 3)", x.lastNumber(0, 3), 1);
     }
 
-    private static void numbers() {
+    private static void wrongCodes() {
+        due.sentence("code is not 0 .. 71, or number is below 1: BAD");
+        for (int code : Due.outside(72)) {
+            for (int number : new int[] {1, 2, MAX, 0}) {
+                ElectedStore x = States.at(States::fill);
+                String before = Due.seen(x);
+                due.is("submit(" + code + ", " + number + ", ..)", x.submit(code, number, 3, 4), ElectedStore.BAD);
+                due.alike("questions after it", Due.seen(x), before);
+            }
+        }
+    }
+
+    private static void wrongNumbers() {
+        due.sentence("code is not 0 .. 71, or number is below 1: BAD");
+        for (int number : new int[] {0, -1, -2, -255, -256, -65536, MIN + 1, MIN}) {
+            for (int code = 0; code < 72; code++) {
+                ElectedStore x = new ElectedStore();
+                String before = Due.seen(x);
+                due.is("submit(" + code + ", " + number + ", ..)", x.submit(code, number, 3, 4), ElectedStore.BAD);
+                due.alike("questions after it", Due.seen(x), before);
+            }
+        }
+    }
+
+    private static void noQuorum() {
+        due.sentence("there is no quorum: NO_QUORUM");
+        for (var state : States.all().entrySet()) {
+            ElectedStore x = States.at(state.getValue());
+            boolean quorum = x.canGet(0) == 0;
+            due.is("submit in state '" + state.getKey() + "'", x.submit(Due.code(2, 2, 2), MAX, 0, 0),
+                    quorum ? 0 : ElectedStore.NO_QUORUM);
+        }
+    }
+
+    private static void oldNumbers() {
+        due.sentence("the number is less than the last number of the session: OLD.");
         ElectedStore x = new ElectedStore();
         int add = Due.code(1, 0, 0);
-        due.is("5", x.submit(add, 5, 1, 0), 0);
+        x.submit(add, 5, 1, 0);
         String before = Due.seen(x);
-        due.is("5 again", x.submit(add, 5, 1, 0), 1);
-        due.is("5 again, with another command", x.submit(Due.code(0, 0, 3), 5, 9, 9), 1);
-        due.is("4", x.submit(add, 4, 1, 0), ElectedStore.OLD);
-        due.is("1", x.submit(add, 1, 1, 0), ElectedStore.OLD);
-        due.holds("nothing happens", Due.seen(x).equals(before));
-        due.is("7", x.submit(add, 7, 1, 0), 0);
-        due.is("6", x.submit(add, 6, 1, 0), ElectedStore.OLD);
-        due.is("MAX", x.submit(add, MAX, 1, 0), 0);
+        for (int number = 4; number >= 1; number--) {
+            due.is("submit with " + number + " after 5", x.submit(add, number, 1, 0), ElectedStore.OLD);
+            due.is("the same with another command", x.submit(Due.code(0, 0, 3), number, 9, 9), ElectedStore.OLD);
+        }
+        due.alike("questions after them", Due.seen(x), before);
+        // Numbers that were passed over are old too, though they never came.
+        x.submit(add, 100, 1, 0);
+        due.is("submit with 99 after 100", x.submit(add, 99, 1, 0), ElectedStore.OLD);
+        due.is("submit with 6 after 100", x.submit(add, 6, 1, 0), ElectedStore.OLD);
+        due.is("get(0)", x.get(0), 2);
+        due.is("another session has its own last number", x.submit(Due.code(1, 1, 0), 1, 1, 0), 0);
+    }
+
+    private static void theLastNumber() {
+        due.sentence("If it is the last number of the session, nothing happens, and the answer is 1.");
+        for (int session = 0; session < 4; session++) {
+            ElectedStore x = States.at(States::fill);
+            String before = Due.seen(x);
+            due.is("the same number", x.submit(Due.code(1, session, 0), 30 + session, 1, 0), 1);
+            due.is("and again", x.submit(Due.code(1, session, 0), 30 + session, 1, 0), 1);
+            due.is("with another key and kind", x.submit(Due.code(2, session, 5), 30 + session, 205, 0), 1);
+            due.alike("questions after them", Due.seen(x), before);
+        }
+    }
+
+    private static void newNumbers() {
+        due.sentence("Else the command is done (a step), there is a settling, and the answer is 0.");
+        ElectedStore x = new ElectedStore();
+        int add = Due.code(1, 0, 0);
+        int done = 0;
+        for (int number : new int[] {1, 2, 3, 10, 11, 1000, 1 << 20, MAX - 1, MAX}) {
+            due.is("submit with " + number, x.submit(add, number, 1, 0), 0);
+            done++;
+            due.is("get(0)", x.get(0), done);
+            due.is("lastNumber(1, 0)", x.lastNumber(1, 0), number);
+        }
+    }
+
+    private static void numberOne() {
+        due.sentence("If it is the last number of the session, nothing happens, and the answer is 1.");
+        ElectedStore x = new ElectedStore();
+        int add = Due.code(1, 2, 0);
+        due.is("1 in a new session", x.submit(add, 1, 1, 0), 0);
+        due.is("1 again", x.submit(add, 1, 1, 0), 1);
+        due.is("submitAndStop with 1", x.submitAndStop(add, 1, 1, 0), 1);
+        due.is("get(0)", x.get(0), 1);
+        due.sentence("the number is less than the last number of the session: OLD.");
+        due.is("2", x.submit(add, 2, 1, 0), 0);
+        due.is("1 after 2", x.submit(add, 1, 1, 0), ElectedStore.OLD);
+        due.is("submitAndStop with 1 after 2", x.submitAndStop(add, 1, 1, 0), ElectedStore.OLD);
+        due.is("get(0)", x.get(0), 2);
+        due.is("leader()", x.leader(), 0);
+    }
+
+    private static void theGreatestNumber() {
+        due.sentence("If it is the last number of the session, nothing happens, and the answer is 1.");
+        ElectedStore x = new ElectedStore();
+        int add = Due.code(1, 3, 0);
+        due.is("MAX in a new session", x.submit(add, MAX, 1, 0), 0);
         due.is("MAX again", x.submit(add, MAX, 1, 0), 1);
+        due.is("submitAndStop with MAX", x.submitAndStop(add, MAX, 1, 0), 1);
+        due.sentence("the number is less than the last number of the session: OLD.");
         due.is("MAX - 1", x.submit(add, MAX - 1, 1, 0), ElectedStore.OLD);
+        due.is("1", x.submit(add, 1, 1, 0), ElectedStore.OLD);
+        due.is("submitAndStop with MAX - 1", x.submitAndStop(add, MAX - 1, 1, 0), ElectedStore.OLD);
+        due.is("MIN is no number at all", x.submit(add, MIN, 1, 0), ElectedStore.BAD);
+        due.is("get(0)", x.get(0), 1);
+        due.is("lastNumber(4, 3)", x.lastNumber(4, 3), MAX);
+        due.is("MAX - 1 in another session", x.submit(Due.code(1, 0, 0), MAX - 1, 1, 0), 0);
+        due.is("MAX after it", x.submit(Due.code(1, 0, 0), MAX, 1, 0), 0);
         due.is("get(0)", x.get(0), 3);
-        due.is("lastNumber(1, 0)", x.lastNumber(1, 0), MAX);
     }
 
-    private static void sessionsAreApart() {
+    private static void theNumberIsTheStates() {
+        due.sentence("the number is less than the last number of the session: OLD.");
+        // Whoever leads, and whatever copies were behind, the state's last number counts.
         ElectedStore x = new ElectedStore();
-        for (int session = 0; session < 4; session++) {
-            due.is("a lesser number in a later session", x.submit(Due.code(1, session, 1), 9 - session, 1, 0), 0);
-        }
-        for (int session = 0; session < 4; session++) {
-            due.is("lastNumber", x.lastNumber(3, session), 9 - session);
-            due.is("answer", x.answer(3, session), session);
-        }
-        due.is("get(1)", x.get(1), 4);
-    }
-
-    private static void wrongInputs() {
-        ElectedStore x = new ElectedStore();
-        x.submit(0, 1, 1, 1);
-        String before = Due.seen(x);
-        for (int code : Due.farOff()) {
-            due.is("submit of no code", x.submit(code, 2, 3, 4), ElectedStore.BAD);
-        }
-        for (int number : new int[] {0, -1, -2, MIN}) {
-            due.is("submit of a number below 1", x.submit(0, number, 3, 4), ElectedStore.BAD);
-            due.is("submit of a number below 1, at the last code", x.submit(71, number, 3, 4), ElectedStore.BAD);
-        }
-        due.holds("refused calls change nothing", Due.seen(x).equals(before));
-        due.is("submit(71, 1, ..)", x.submit(71, 1, 0, 4), 0);
-    }
-
-    private static void orderOfTests() {
-        ElectedStore x = new ElectedStore();
-        x.submit(0, 5, 1, 1);
+        x.stop(3);
+        x.stop(4);
+        x.submit(Due.code(1, 1, 0), 9, 1, 0);
         x.stop(0);
         x.stop(1);
-        x.stop(2);
-        String before = Due.seen(x);
-        due.is("BAD comes before NO_QUORUM", x.submit(72, 6, 0, 0), ElectedStore.BAD);
-        due.is("BAD comes before NO_QUORUM", x.submit(0, 0, 0, 0), ElectedStore.BAD);
-        due.is("NO_QUORUM comes before OLD", x.submit(0, 4, 0, 0), ElectedStore.NO_QUORUM);
-        due.is("NO_QUORUM comes before 1", x.submit(0, 5, 0, 0), ElectedStore.NO_QUORUM);
-        due.is("NO_QUORUM", x.submit(0, 6, 0, 0), ElectedStore.NO_QUORUM);
-        due.holds("refused calls change nothing", Due.seen(x).equals(before));
+        x.start(3);
+        x.start(4);
+        due.is("leader() of 2, 3, 4", x.leader(), 2);
+        due.is("9 again", x.submit(Due.code(1, 1, 0), 9, 1, 0), 1);
+        due.is("8", x.submit(Due.code(1, 1, 0), 8, 1, 0), ElectedStore.OLD);
+        due.is("10", x.submit(Due.code(1, 1, 0), 10, 1, 0), 0);
+        due.is("get(0)", x.get(0), 2);
     }
 
     private static void theQuorumAloneIsBroughtUp() {
+        due.sentence("Else the command is done (a step), there is a settling, and the answer is 0.");
         ElectedStore x = new ElectedStore();
         x.stop(1);
         x.member(2, false);
