@@ -34,7 +34,7 @@ public final class CompactTest {
     private static void changesNoLaterAnswer() {
         due.sentence("Changes no answer of any call.");
         for (Map.Entry<String, Consumer<ElectedStore>> state : States.all().entrySet()) {
-            for (int which = 0; which < 5 * States.FUTURES; which++) {
+            for (int which = 0; which < 3 * States.FUTURES; which++) {
                 ElectedStore x = States.at(state.getValue());
                 ElectedStore y = States.at(state.getValue());
                 y.compact();
@@ -47,7 +47,7 @@ public final class CompactTest {
     private static void betweenAllCalls() {
         due.sentence("Changes no answer of any call.");
         for (Map.Entry<String, Consumer<ElectedStore>> state : States.all().entrySet()) {
-            for (int which = 0; which < 5 * States.FUTURES; which++) {
+            for (int which = 0; which < 3 * States.FUTURES; which++) {
                 ElectedStore x = States.at(state.getValue());
                 ElectedStore y = States.at(state.getValue());
                 due.alike("future " + which + " of state '" + state.getKey() + "'",
@@ -143,7 +143,7 @@ public final class CompactTest {
     private static void faultsAllAlong() {
         due.sentence("How many faults a check of all logs finds: always 0.");
         for (Map.Entry<String, Consumer<ElectedStore>> state : States.all().entrySet()) {
-            for (int which = 0; which < 5 * States.FUTURES; which++) {
+            for (int which = 0; which < 3 * States.FUTURES; which++) {
                 ElectedStore x = States.at(state.getValue());
                 States.future(x, which, y -> due.is("faults() on the way from '" + state.getKey() + "'", y.faults(), 0));
             }

@@ -94,6 +94,7 @@ public final class MemberTest {
             ElectedStore x = onlyMember(node);
             due.is("leader()", x.leader(), node);
             String before = Due.seen(x);
+            // Were this a step, nobody could see it: none but members are current (ReachTest), and this one stays so.
             due.is("LAST, before SPLIT", x.member(node, false), ElectedStore.LAST);
             due.is("0 comes before LAST", x.member(node, true), 0);
             due.holds("refused calls change nothing", Due.seen(x).equals(before));
@@ -184,7 +185,8 @@ public final class MemberTest {
                 }
             }
         }
-        // 'In the group of the quorum': whoever is up elsewhere is no help, be they as many as they may.
+        // 'In the group of the quorum': whoever is up elsewhere is no help. That another group would be more than half while
+        // this one would not be is nothing that a run of calls can show: one node more or less does not make up for it.
         ElectedStore x = onlyMember(0);
         x.move(1, 1);
         x.move(2, 1);

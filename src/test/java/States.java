@@ -5,7 +5,8 @@ import java.util.function.Consumer;
 
 /** The kinds of states that an object can come to, each with the calls that bring a new object there. */
 final class States {
-    static final int FUTURES = 12;
+    static final int FUTURES = 18;
+    private static final int GATHERINGS = 10;
     private static final int FUTURE_STEPS = 30;
 
     private States() {
@@ -25,6 +26,9 @@ final class States {
         ways.put("greatest numbers and outermost values", States::outermost);
         ways.put("one down and behind", x -> { fill(x); stop(x, 3); late(x); });
         ways.put("one in another group and behind", x -> { fill(x); x.move(2, 1); late(x); });
+        ways.put("one down that missed nothing", x -> { fill(x); stop(x, 1); });
+        ways.put("just enough, and those away missed nothing", x -> { fill(x); stop(x, 1); x.move(2, 1); });
+        ways.put("three members, and the one away missed nothing", x -> { fill(x); take(x, 0, 4); stop(x, 2); });
         ways.put("another leads", x -> { fill(x); stop(x, 0, 1); start(x, 0, 1); });
         ways.put("quorum in group 2", x -> { fill(x); move(x, 2, 2, 3, 4); late(x); });
         ways.put("just enough of five, down", x -> { fill(x); stop(x, 1, 4); late(x); });
@@ -111,16 +115,51 @@ final class States {
      * current, and what the pending command is are asked by no question, but come out here. At most 230 calls.
      */
     static String future(ElectedStore x, int which, Consumer<ElectedStore> between) {
-        Random random = new Random(which);
         StringBuilder text = new StringBuilder();
-        for (int i = 0; i < FUTURE_STEPS; i++) {
-            text.append(call(x, random)).append(',').append(x.leader()).append(',').append(x.pending()).append(' ');
-            between.accept(x);
+        if (which < GATHERINGS) {
+            gather(x, which, between, text);
+        } else {
+            anyCalls(x, which, between, text);
         }
         for (int node = 0; node < 5; node++) {
             text.append("group ").append(x.move(node, 0)).append(' ');
         }
         return text.append(Due.seen(x)).toString();
+    }
+
+    /** All go down without a step on the way, then three come up: the leader they choose tells who is current. */
+    private static void gather(ElectedStore x, int which, Consumer<ElectedStore> between, StringBuilder text) {
+        int leader = x.leader();
+        for (int node = 0; node < 5; node++) {
+            if (node != leader) {
+                x.stop(node);
+            }
+        }
+        if (leader >= 0) {
+            x.stop(leader);
+        }
+        between.accept(x);
+        int set = 0;
+        for (int left = which; left >= 0; left--) {
+            set++;
+            while (Integer.bitCount(set) != 3) {
+                set++;
+            }
+        }
+        for (int node = 0; node < 5; node++) {
+            if ((set >> node & 1) == 1) {
+                text.append(x.move(node, 0)).append(x.start(node)).append(',').append(x.leader()).append(' ');
+                between.accept(x);
+            }
+        }
+    }
+
+    private static void anyCalls(ElectedStore x, int which, Consumer<ElectedStore> between, StringBuilder text) {
+        Random random = new Random(which);
+        for (int i = 0; i < FUTURE_STEPS; i++) {
+            text.append(call(x, random)).append(',').append(x.leader()).append(',').append(x.pending()).append(' ');
+            between.accept(x);
+        }
     }
 
     static String future(ElectedStore x, int which) {
