@@ -1,3 +1,6 @@
+import java.util.HashSet;
+import java.util.Set;
+
 /** Terms: how a command is done, at the edges of the ints too. */
 public final class CommandTest {
     private static final int MIN = Due.MIN;
@@ -6,6 +9,7 @@ public final class CommandTest {
     private static final Due due = new Due("CommandTest");
 
     public static void main(String[] args) {
+        everyPartMatters();
         everyCode();
         set();
         add();
@@ -15,7 +19,40 @@ public final class CommandTest {
         theSessionsAnswer();
         theSessionsLastNumber();
         sessionsAreApart();
+        theValueIsTheStates();
         due.end();
+    }
+
+    private static void everyPartMatters() {
+        due.sentence("A COMMAND has a kind 0 .. 2, a session, a key, a number, and two ints a and b.");
+        Set<String> outcomes = new HashSet<>();
+        int commands = 0;
+        for (int kind = 0; kind <= 2; kind++) {
+            for (int session = 0; session <= 3; session++) {
+                for (int key = 0; key <= 5; key++) {
+                    for (int number = 7; number <= 8; number++) {
+                        // By kinds 0 and 1 a matters alone; by kind 2 the value, 7, must be a, and b matters.
+                        commands += 2;
+                        outcomes.add(outcome(kind, session, key, number, kind == 2 ? 7 : 8, 70));
+                        outcomes.add(outcome(kind, session, key, number, kind == 2 ? 7 : 9, 71));
+                    }
+                }
+            }
+        }
+        due.is("commands that do all the same as another", commands - outcomes.size(), 0);
+        due.alike("b by kind 0", outcome(0, 1, 2, 7, 9, MIN), outcome(0, 1, 2, 7, 9, MAX));
+        due.alike("b by kind 1", outcome(1, 1, 2, 7, 9, MIN), outcome(1, 1, 2, 7, 9, MAX));
+        due.alike("b by kind 2 if x is not a", outcome(2, 1, 2, 7, 9, MIN), outcome(2, 1, 2, 7, 9, MAX));
+    }
+
+    /** What is seen after one command, in a state where every key is 7. */
+    private static String outcome(int kind, int session, int key, int number, int a, int b) {
+        ElectedStore x = new ElectedStore();
+        for (int each = 0; each < 6; each++) {
+            x.submit(Due.code(0, session, each), each + 1, 7, 0);
+        }
+        due.is("submit", x.submit(Due.code(kind, session, key), number, a, b), 0);
+        return Due.seen(x);
     }
 
     private static void everyCode() {
@@ -162,5 +199,27 @@ public final class CommandTest {
             due.is("answer", x.answer(3, session), session);
         }
         due.is("get(1)", x.get(1), 4);
+    }
+
+    private static void theValueIsTheStates() {
+        due.sentence("It is DONE so: let x be the key's value");
+        // 3 and 4 are behind; whoever of them comes to the quorum, the command starts from the state's value.
+        ElectedStore x = holding(5);
+        x.stop(3);
+        x.stop(4);
+        x.submit(Due.code(1, 3, 2), 2, 10, 0);
+        due.is("local(4, 2)", x.local(4, 2), 5);
+        x.stop(0);
+        x.stop(1);
+        x.start(4);
+        x.start(3);
+        due.is("submit", x.submit(Due.code(1, 0, 2), 1, 100, 0), 0);
+        for (int node = 2; node < 5; node++) {
+            due.is("local(" + node + ", 2)", x.local(node, 2), 115);
+            due.is("answer(" + node + ", 0)", x.answer(node, 0), 15);
+        }
+        due.is("submit", x.submit(Due.code(2, 1, 2), 1, 115, -1), 0);
+        due.is("get(2)", x.get(2), -1);
+        due.is("answer(3, 1)", x.answer(3, 1), 115);
     }
 }

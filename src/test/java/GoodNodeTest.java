@@ -6,6 +6,7 @@ public final class GoodNodeTest {
     private static final Due due = new Due("GoodNodeTest");
 
     public static void main(String[] args) {
+        eachOnItsOwn();
         goodNodes();
         for (Map.Entry<String, Consumer<ElectedStore>> state : States.all().entrySet()) {
             for (int node : Due.outside(5)) {
@@ -16,6 +17,31 @@ public final class GoodNodeTest {
             }
         }
         due.end();
+    }
+
+    private static void eachOnItsOwn() {
+        due.sentence("There are NODES 0 .. 4; each is UP or DOWN, is in a GROUP 0 .. 2, and is a MEMBER or not.");
+        for (int node = 0; node <= 4; node++) {
+            for (int group = 0; group <= 2; group++) {
+                for (int up = 0; up <= 1; up++) {
+                    for (int member = 0; member <= 1; member++) {
+                        ElectedStore x = new ElectedStore();
+                        x.member(node, member == 1);
+                        x.move(node, group);
+                        due.is("stop(" + node + ")", x.stop(node), 1);
+                        if (up == 1) {
+                            due.is("start(" + node + ")", x.start(node), 1);
+                        }
+                        String where = " of " + node + ", in group " + group + ", up " + up + ", member " + member;
+                        for (int other = 0; other <= 4; other++) {
+                            due.is("isUp(" + other + ")" + where, x.isUp(other), other == node ? up : 1);
+                            due.is("isMember(" + other + ")" + where, x.isMember(other), other == node ? member : 1);
+                            due.is("move(" + other + ", ..)" + where, x.move(other, 2), other == node ? group : 0);
+                        }
+                    }
+                }
+            }
+        }
     }
 
     private static void goodNodes() {

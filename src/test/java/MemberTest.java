@@ -3,6 +3,7 @@ public final class MemberTest {
     private static final Due due = new Due("MemberTest");
 
     public static void main(String[] args) {
+        outAndIn();
         answersOfEveryNode();
         wrongNodes();
         withoutAQuorum();
@@ -19,6 +20,28 @@ public final class MemberTest {
         noMemberIsLed();
         isMember();
         due.end();
+    }
+
+    private static void outAndIn() {
+        due.sentence("A node becomes a member (flag true), or is none any more.");
+        for (int node = 0; node < 5; node++) {
+            for (int up = 0; up <= 1; up++) {
+                for (int group = 0; group < 3; group++) {
+                    ElectedStore x = new ElectedStore();
+                    x.move(node, group);
+                    if (up == 0) {
+                        x.stop(node);
+                    }
+                    String where = " of " + node + ", up " + up + ", in group " + group;
+                    due.is("member(false)" + where, x.member(node, false), 1);
+                    due.is("isMember" + where, x.isMember(node), 0);
+                    due.is("member(true)" + where, x.member(node, true), 1);
+                    due.is("isMember" + where, x.isMember(node), 1);
+                    due.is("isUp" + where, x.isUp(node), up);
+                    due.is("move" + where, x.move(node, 0), group);
+                }
+            }
+        }
     }
 
     private static void answersOfEveryNode() {

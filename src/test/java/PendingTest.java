@@ -12,6 +12,7 @@ public final class PendingTest {
         oldAndLastNumbers();
         noQuorum();
         theLeaderGoesDown();
+        thereIsASettling();
         twoOrThreeAtEveryNumberOfMembers();
         everyLeaderHolds();
         pendingInEveryState();
@@ -93,6 +94,31 @@ public final class PendingTest {
                 due.is("answer", answer, y.leader() < 0 ? 2 : 3);
             }
         }
+    }
+
+    private static void thereIsASettling() {
+        due.sentence("Then there is a settling.");
+        // If the others go on without the leader, nothing is left of the command: it is as if the leader had just stopped.
+        for (var state : States.all().entrySet()) {
+            int leader = States.at(state.getValue()).leader();
+            for (int which = 0; leader >= 0 && which < States.FUTURES; which++) {
+                ElectedStore x = States.at(state.getValue());
+                ElectedStore y = States.at(state.getValue());
+                due.is("stop(leader)", y.stop(leader), 1);
+                if (x.submitAndStop(SET, Due.MAX, 9, 9) == 3) {
+                    due.alike("future " + which + " of state '" + state.getKey() + "'", States.future(x, which), States.future(y, which));
+                }
+            }
+        }
+        // The choice that the settling makes is a step: 1 was away, and may not lead at once.
+        ElectedStore x = new ElectedStore();
+        x.stop(1);
+        due.is("submitAndStop", x.submitAndStop(SET, 1, 8, 0), 3);
+        due.is("leader() of 2, 3, 4", x.leader(), 2);
+        x.stop(2);
+        due.is("leader() of 3, 4", x.leader(), ElectedStore.NO_QUORUM);
+        x.start(1);
+        due.is("leader() of 1, 3, 4", x.leader(), 3);
     }
 
     private static void twoOrThreeAtEveryNumberOfMembers() {

@@ -4,6 +4,7 @@ public final class QuorumTest {
     private static final Due due = new Due("QuorumTest");
 
     public static void main(String[] args) {
+        theStoreIsKept();
         moreThanHalfByStopping();
         moreThanHalfByMoving();
         moreThanHalfByStarting();
@@ -31,6 +32,44 @@ public final class QuorumTest {
         int number = x.lastNumber(0, 0) + x.lastNumber(1, 0) + x.lastNumber(2, 0) + x.lastNumber(3, 0) + x.lastNumber(4, 0) + 1;
         due.is(where + ": submit", x.submit(SET, number, number, 0), there ? 0 : ElectedStore.NO_QUORUM);
         due.is(where + ": get(0)", x.get(0), there ? number : 0);
+    }
+
+    private static void theStoreIsKept() {
+        due.sentence("A store that several nodes keep together, as long as more than half of them hang together.");
+        for (int together = 0; together < 32; together++) {
+            for (int away = 0; away < 3; away++) {
+                ElectedStore x = States.at(States::fill);
+                for (int node = 0; node < 5; node++) {
+                    if ((together >> node & 1) == 0) {
+                        leave(x, node, away);
+                    }
+                }
+                // Those who moved away to one group hang together as well.
+                int count = Integer.bitCount(together);
+                boolean kept = count >= 3 || away > 0 && count <= 2;
+                for (int key = 0; key < 6; key++) {
+                    int value = key < 4 ? 100 + key : 200 + key;
+                    due.is("get(" + key + ") with " + together + " together", x.get(key), kept ? value : 0);
+                }
+            }
+        }
+        // The nodes go down one after the other, and each is back before the next goes: nothing is lost.
+        ElectedStore x = States.at(States::fill);
+        for (int round = 0; round < 10; round++) {
+            due.is("stop", x.stop(round % 5), 1);
+            due.is("submit", x.submit(Due.code(1, 0, 5), 40 + round, 1, 0), 0);
+            due.is("start", x.start(round % 5), 1);
+            due.is("get(5)", x.get(5), 206 + round);
+            due.is("get(0)", x.get(0), 100);
+        }
+    }
+
+    private static void leave(ElectedStore x, int node, int group) {
+        if (group == 0) {
+            x.stop(node);
+        } else {
+            x.move(node, group);
+        }
     }
 
     private static void moreThanHalfByStopping() {

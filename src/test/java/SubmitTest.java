@@ -5,6 +5,7 @@ public final class SubmitTest {
     private static final Due due = new Due("SubmitTest");
 
     public static void main(String[] args) {
+        itIsDone();
         codesAtTheEdges();
         wrongCodes();
         wrongNumbers();
@@ -17,6 +18,23 @@ public final class SubmitTest {
         theNumberIsTheStates();
         theQuorumAloneIsBroughtUp();
         due.end();
+    }
+
+    private static void itIsDone() {
+        due.sentence("Does a command.");
+        for (var state : States.all().entrySet()) {
+            ElectedStore x = States.at(state.getValue());
+            int leader = x.leader();
+            if (leader >= 0) {
+                int before = x.get(4);
+                due.is("submit in state '" + state.getKey() + "'", x.submit(Due.code(1, 2, 4), MAX, 3, 0), 0);
+                due.is("get(4)", x.get(4), before + 3);
+                due.is("lastNumber(leader, 2)", x.lastNumber(leader, 2), MAX);
+                due.is("answer(leader, 2)", x.answer(leader, 2), before);
+                due.is("leader(): the same still", x.leader(), leader);
+                due.is("pending(): it is done at once", x.pending(), 0);
+            }
+        }
     }
 
     private static void codesAtTheEdges() {
